@@ -1,7 +1,8 @@
 /** Long runs of calls, made by a fixed rule, each answer held against the oracle. All promises. */
 public final class OracleTest {
     private static final int CALLS = 512;
-    private static final int OBJECTS = 60;
+    private static final int MOST_CALLS_OF_A_STEP = 2;
+    private static final int OBJECTS = 100;
 
     private static long seed = 1;
     private static LeastDeviations o;
@@ -16,8 +17,10 @@ public final class OracleTest {
             o = new LeastDeviations();
             n = 0;
             k = 2;
-            for (int call = 0; call < CALLS; call++) {
-                step(spans[t % spans.length]);
+            // What is answered after the last of these calls is free, so no step may reach beyond it.
+            int calls = 0;
+            while (calls + MOST_CALLS_OF_A_STEP <= CALLS) {
+                calls += step(spans[t % spans.length]);
             }
         }
         Check.end();
@@ -29,25 +32,39 @@ public final class OracleTest {
         return low + (int) ((seed >>> 33) % (high - low + 1));
     }
 
-    private static void step(int span) {
+    /** Makes one or two calls and answers how many. */
+    private static int step(int span) {
         int what = pick(0, 19);
         if (what < 6) {
             add(pick(-span, span), pick(-20, 21));
-        } else if (what < 8) {
-            drop(pick(-1, 8));
-        } else if (what < 9) {
-            lean(pick(0, 4));
-        } else if (what < 11) {
-            least();
-        } else if (what < 14) {
-            slope(pick(0, 1) == 0 ? pick(-1002, 1002) : pick(-40, 40), pick(0, 41));
-        } else if (what < 17) {
-            pair(pick(-1, 8), pick(-1, 8));
-        } else if (what < 19) {
-            through(pick(-1, 8));
-        } else {
-            Check.same("points", o.points(), n);
+            return 1;
         }
+        if (what < 8) {
+            drop(pick(-1, 8));
+            return 1;
+        }
+        if (what < 9) {
+            lean(pick(0, 4));
+            return 1;
+        }
+        if (what < 11) {
+            least();
+            return 2;
+        }
+        if (what < 14) {
+            slope(pick(0, 1) == 0 ? pick(-1002, 1002) : pick(-40, 40), pick(0, 41));
+            return 2;
+        }
+        if (what < 17) {
+            pair(pick(-1, 8), pick(-1, 8));
+            return 1;
+        }
+        if (what < 19) {
+            through(pick(-1, 8));
+            return 2;
+        }
+        Check.same("points", o.points(), n);
+        return 1;
     }
 
     private static void add(int px, int py) {
