@@ -203,8 +203,8 @@ public final class AnswerBoundsTest {
             State.keptAlways("withSlope(0, " + q + ")", o -> o.withSlope(0, q), LeastDeviations.BAD);
             State.keptAlways("withSlope(1000, " + q + ")", o -> o.withSlope(1000, q), LeastDeviations.BAD);
             for (int p : BAD_P) {
-                Check.same("withSlope(" + p + ", " + q + ")",
-                    Check.with(2, State.THREE_POINTS).withSlope(p, q), LeastDeviations.BAD);
+                State.kept("withSlope(" + p + ", " + q + ")",
+                    o -> o.withSlope(p, q), LeastDeviations.BAD, 3, State.THREE_POINTS);
             }
         }
     }
@@ -258,7 +258,8 @@ public final class AnswerBoundsTest {
             State.keptAlways("bestSlope(0, " + q + ")", o -> State.bit(o.bestSlope(0, q)), 0);
             State.keptAlways("bestSlope(1000, " + q + ")", o -> State.bit(o.bestSlope(1000, q)), 0);
             for (int p : BAD_P) {
-                Check.same("bestSlope(" + p + ", " + q + ")", Check.with(2, State.ONE_POINT).bestSlope(p, q), false);
+                State.kept("bestSlope(" + p + ", " + q + ")",
+                    o -> State.bit(o.bestSlope(p, q)), 0, 1, State.ONE_POINT);
             }
         }
         // The slope 1 is best, but not when it is written over a q outside.
@@ -278,21 +279,26 @@ public final class AnswerBoundsTest {
             State.keptAlways("bestPair(" + i + ", -1)", o -> State.bit(o.bestPair(i, -1)), 0);
         }
         for (int n = 0; n <= 8; n++) {
-            LeastDeviations o = onOneLine(n);
             for (int i = 0; i <= n; i++) {
-                Check.same("bestPair(" + i + ", " + n + ")", o.bestPair(i, n), false);
-                Check.same("bestPair(" + n + ", " + i + ")", o.bestPair(n, i), false);
+                pairBehindTheLast(i, n);
             }
         }
     }
 
+    private static void pairBehindTheLast(int i, int n) {
+        int[] line = onOneLine(n);
+        State.kept("bestPair(" + i + ", " + n + ")", o -> State.bit(o.bestPair(i, n)), 0, 3, line);
+        State.kept("bestPair(" + n + ", " + i + ")", o -> State.bit(o.bestPair(n, i)), 0, 1, line);
+    }
+
     /** Points on one line: each two of them are a best pair. */
-    private static LeastDeviations onOneLine(int n) {
-        LeastDeviations o = Check.with(2);
+    private static int[] onOneLine(int n) {
+        int[] coordinates = new int[2 * n];
         for (int t = 0; t < n; t++) {
-            o.add(5 * t - 18, 3 * t - 10);
+            coordinates[2 * t] = 5 * t - 18;
+            coordinates[2 * t + 1] = 3 * t - 10;
         }
-        return o;
+        return coordinates;
     }
 
     /** "or both have the same x" of promise 9: x of 0 or at a bound, and x that differ by one. */
@@ -317,7 +323,7 @@ public final class AnswerBoundsTest {
     /** The inner side of "no such point": the first and the last of two to eight points. */
     private static void bestPairAtTheEnds() {
         for (int n = 2; n <= 8; n++) {
-            LeastDeviations o = onOneLine(n);
+            LeastDeviations o = Check.with(2, onOneLine(n));
             Check.same("bestPair(0, " + (n - 1) + ")", o.bestPair(0, n - 1), true);
             Check.same("bestPair(" + (n - 1) + ", 0)", o.bestPair(n - 1, 0), true);
             o.drop(n - 1);
@@ -352,7 +358,7 @@ public final class AnswerBoundsTest {
     /** The inner side of "no point i": the first and the last, and the last no more when it is dropped. */
     private static void throughAtTheEnds() {
         for (int n = 1; n <= 8; n++) {
-            LeastDeviations o = onOneLine(n);
+            LeastDeviations o = Check.with(2, onOneLine(n));
             through(0, o, 0, 1);
             through(n - 1, o, 0, 1);
             o.drop(n - 1);
