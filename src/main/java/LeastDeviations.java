@@ -3,7 +3,9 @@
  *
  * The cost of a line is convex and made of flat pieces in (slope, height), and pieces meet only where
  * the line touches a point. So a smallest cost is always found on a line through two points of
- * different x or, where all points in question share one x, on any line through one of them.
+ * different x or, where all points share one x and the slope doesn't matter, on the level line through
+ * one of them. Every cost stays far below what an int holds (24 * 41600, times 40 where two fractions
+ * are compared), so int is wide enough throughout.
  */
 public final class LeastDeviations {
     public static final int BAD = -1;

@@ -5,6 +5,7 @@ public final class SlopeTest {
 
     public static void main(String[] args) {
         withoutPoints();
+        emptied();
         onePoint();
         threePoints();
         edges();
@@ -12,6 +13,7 @@ public final class SlopeTest {
         refused(Check.with(2, 0, 0, 1, 1, 3, 0));
         manyBestSlopes();
         oneColumn();
+        notInLowestTerms();
         Check.end();
     }
 
@@ -21,6 +23,24 @@ public final class SlopeTest {
         Check.same("withSlope(-1000, 40) without points", o.withSlope(-1000, 40), 0);
         Check.same("bestSlope(0, 1) without points", o.bestSlope(0, 1), true);
         Check.same("bestSlope(1000, 40) without points", o.bestSlope(1000, 40), true);
+    }
+
+    /** "The cost of a line is the sum of those of all points": without any, 0 for every line. */
+    private static void emptied() {
+        for (int k = 1; k <= 3; k++) {
+            LeastDeviations o = Check.with(k, -20, 20, 3, 4, 20, 20);
+            Check.same("withSlope(-9, 7) before the drops", o.withSlope(-9, 7) > 0, true);
+            Check.same("bestSlope(-9, 7) before the drops", o.bestSlope(-9, 7), false);
+            for (int left = 2; left >= 0; left--) {
+                o.drop(0);
+            }
+            for (int p = -1000; p <= 1000; p += 50) {
+                for (int q = 1; q <= 40; q += 13) {
+                    Check.same("withSlope(" + p + ", " + q + ") when all are dropped", o.withSlope(p, q), 0);
+                    Check.same("bestSlope(" + p + ", " + q + ") when all are dropped", o.bestSlope(p, q), true);
+                }
+            }
+        }
     }
 
     private static void onePoint() {
@@ -82,5 +102,26 @@ public final class SlopeTest {
         Check.same("withSlope(3, 7) of a column", o.withSlope(3, 7), 28);
         Check.same("bestSlope(-1000, 1) of a column", o.bestSlope(-1000, 1), true);
         Check.same("bestSlope(1000, 40) of a column", o.bestSlope(1000, 40), true);
+    }
+
+    /** "times q", as q is given; but whether a slope is best doesn't hang on how it is written. */
+    private static void notInLowestTerms() {
+        // With lean 3 the first slope is best, with lean 1 or 2 the second.
+        int[][] slopes = {{-1, 2}, {0, 1}, {1, 1}, {-7, 3}, {5, 13}, {50, 1}};
+        for (int k = 1; k <= 3; k++) {
+            for (int[] slope : slopes) {
+                LeastDeviations o = Check.with(k, 0, 0, 1, 1, 3, 0);
+                int cost = o.withSlope(slope[0], slope[1]);
+                boolean best = slope == slopes[k == 3 ? 0 : 1];
+                for (int g = 1; g * slope[1] <= 40 && g * slope[0] <= 1000; g++) {
+                    longer(o, g * slope[0], g * slope[1], g * cost, best);
+                }
+            }
+        }
+    }
+
+    private static void longer(LeastDeviations o, int p, int q, int cost, boolean best) {
+        Check.same("withSlope(" + p + ", " + q + ")", o.withSlope(p, q), cost);
+        Check.same("bestSlope(" + p + ", " + q + ")", o.bestSlope(p, q), best);
     }
 }
