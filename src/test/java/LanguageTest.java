@@ -31,7 +31,10 @@ import javax.tools.JavaCompiler;
 import javax.tools.StandardJavaFileManager;
 import javax.tools.ToolProvider;
 
-/** The rules of LANGUAGE.md that can be seen in the source; FaceTest has those that reflection sees. */
+/**
+ * Rules of LANGUAGE.md that can be seen in the source; FaceTest has those that reflection sees. Not looked
+ * at, so to be read for: rule 7, the ends of loops, and arrays that are compared or swapped (rule 4).
+ */
 public final class LanguageTest {
     private static final String SOURCE = "src/main/java/LeastDeviations.java";
     private static final int MOST_DEPTH = 6;
